@@ -715,7 +715,6 @@ public final class RootedTrees {
         private final long[] leastInto;
         private final int[] before;
         private final int[] group;
-        private final int[] seenFrom;
         private int nodes;
         private int arcs;
         private int root;
@@ -728,7 +727,6 @@ public final class RootedTrees {
             leastInto = new long[MOST_NODES];
             before = new int[MOST_NODES];
             group = new int[MOST_NODES];
-            seenFrom = new int[MOST_NODES];
         }
 
         static int weightIn(long sum) {
@@ -757,11 +755,11 @@ public final class RootedTrees {
             return graph.allNodes() & ~reached;
         }
 
-        /** Each node takes its cheapest arc; rings that come of it become one node, and it begins anew. */
+        /**
+         * Each node takes its cheapest arc; each ring that comes of it becomes one node, and it begins
+         * anew. What the root doesn't reach is at last a node without an arc to it.
+         */
         long leastCost(int start) {
-            if (outOfReach(start) != 0) {
-                return NO_COST;
-            }
             takeArcs(start);
             long sum = 0;
             for (int round = 0; round < MOST_NODES; round++) {
@@ -813,18 +811,19 @@ public final class RootedTrees {
             return complete;
         }
 
-        /** Numbers the rings among the chosen arcs in the groups; other nodes stay below 0. */
+        /**
+         * Numbers the rings among the chosen arcs in the groups; other nodes stay below 0. Who goes
+         * back as many steps as there are nodes without an end is on a ring.
+         */
         private int findRings() {
             Arrays.fill(group, -1);
-            Arrays.fill(seenFrom, -1);
             int rings = 0;
             for (int from = 0; from < nodes; from++) {
                 int node = from;
-                for (int step = 0; step < nodes && isFresh(node, from); step++) {
-                    seenFrom[node] = from;
+                for (int step = 0; step < nodes && isLoose(node); step++) {
                     node = before[node];
                 }
-                if (node != root && group[node] < 0) {
+                if (isLoose(node)) {
                     markRing(node, rings);
                     rings++;
                 }
@@ -832,13 +831,13 @@ public final class RootedTrees {
             return rings;
         }
 
-        private boolean isFresh(int node, int from) {
-            return node != root && group[node] < 0 && seenFrom[node] != from;
+        private boolean isLoose(int node) {
+            return node != root && group[node] < 0;
         }
 
         private void markRing(int first, int ring) {
             int node = first;
-            for (int step = 0; step < nodes && group[node] < 0; step++) {
+            for (int step = 0; step < nodes && isLoose(node); step++) {
                 group[node] = ring;
                 node = before[node];
             }

@@ -118,6 +118,10 @@ public final class ForestsTest {
         check.due("next", y.next(), 13);
         check.due("the least in of those as light", y.swap(1), 3);
         check.due("the least out of those as light", y.swap(0), 1);
+        RootedTrees z = Check.graph(2, 0, 1, 0, 0, 1, 1000);
+        check.due("next with the greatest rise", z.next(), 1000);
+        check.due("its out", z.swap(0), 0);
+        check.due("its in", z.swap(1), 1);
     }
 
     private static void nextRefusals() {
