@@ -88,6 +88,24 @@ public final class RulesTest {
         }
         check.due("characters above 255", text.chars().anyMatch(c -> c > 255) ? 1 : 0, 0);
         methodLengths(code.split("\n"));
+        sections(text);
+    }
+
+    /** What the interface says ahead of its calls stands there, and no call of another part in between. */
+    private static void sections(String text) {
+        List<String> marks = List.of("// ---- forests", "// ---- rooted", "// ---- joined");
+        List<String> first = List.of("int parts()", "int rooted(int root)", "int joined(int ends)");
+        for (int i = 0; i < marks.size(); i++) {
+            String ahead = marks.get(i) + "\n\n    public " + first.get(i);
+            check.due(marks.get(i) + " ahead of " + first.get(i), text.contains(ahead) ? 1 : 0, 1);
+        }
+        int place = -1;
+        for (String call : FACE) {
+            String name = call.substring(0, call.indexOf('(') + 1);
+            int found = text.indexOf("    public " + name);
+            check.due(name + " in the document's order", found > place ? 1 : 0, 1);
+            place = found;
+        }
     }
 
     private static void methodLengths(String[] lines) {
