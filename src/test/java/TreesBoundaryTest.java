@@ -188,7 +188,11 @@ public final class TreesBoundaryTest {
 
     private static void rootedNotReached() {
         check.sentence("Promise 17: -3 some NODE is not to be reached");
-        check.refused("no arcs", () -> Check.graph(2), x -> x.rooted(0), -3);
+        for (int i = 2; i <= 10; i++) {
+            int nodes = i;
+            check.refused("no arcs, first of " + nodes, () -> Check.graph(nodes), x -> x.rooted(0), -3);
+            check.refused("no arcs, last of " + nodes, () -> Check.graph(nodes), x -> x.rooted(nodes - 1), -3);
+        }
         for (int i = 1; i < 10; i++) {
             int root = i;
             check.refused("against the arcs", () -> way(0, 10, 5), x -> x.rooted(root), -3);
